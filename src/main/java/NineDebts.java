@@ -1174,12 +1174,13 @@ public final class NineDebts {
             lineUp(kind, life);
             for (int k = 0; k < life.count && left > 0; k++) {
                 int d = nextInLine(life.count);
-                if (d >= 0) {
-                    int more = Math.min(left, life.debts[d][Life.SUM] - payments[d]);
-                    payments[d] += more;
-                    left -= more;
-                    turns[d] = NO_TURN;
+                if (d < 0) {
+                    break;
                 }
+                int more = Math.min(left, life.debts[d][Life.SUM] - payments[d]);
+                payments[d] += more;
+                left -= more;
+                turns[d] = NO_TURN;
             }
         }
 
@@ -1284,7 +1285,7 @@ public final class NineDebts {
             tryPayments(0, 0, atFirst.coin());
         }
 
-        /** Tries all payments from debt d on in this week; the least first, so that of several plans the first stays. */
+        /** Tries all payments from debt d on in this week, the least first: of several plans the first stays. */
         private void tryPayments(int week, int d, int left) {
             Life life = lifeAfter(week);
             if (week >= weeks || week >= LONGEST_BEST) {

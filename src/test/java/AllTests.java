@@ -1,7 +1,13 @@
 /** Runs every test of the project; ends with 1 if one fails. */
 public final class AllTests {
-    public static void main(String[] args) {
+    public static void main(String[] args) throws java.io.IOException {
         Checks checks = new Checks();
+        SourceTest.runAll(checks);
+        ShelfTest.runAll(checks);
+        LifeTest.runAll(checks);
+        WeekTest.runAll(checks);
+        OutcomeTest.runAll(checks);
+        KeepTest.runAll(checks);
         ModelTest.runAll(checks);
         checks.close();
         if (checks.failed() != 0) {
