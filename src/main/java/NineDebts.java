@@ -1282,31 +1282,42 @@ public final class NineDebts {
             atFirst.harm = 0;
             weeks = n;
             isFound = false;
-            tryPayments(0, 0, atFirst.coin());
+            goOn(0, 0, atFirst.coin());
         }
 
-        /** Tries all payments from debt d on in this week, the least first: of several plans the first stays. */
+        /** Goes on from debt d of this week: behind the last one the week ends. */
+        private void goOn(int week, int d, int left) {
+            if (d < lifeAfter(week).count) {
+                tryPayments(week, d, left);
+            } else {
+                endWeek(week);
+            }
+        }
+
+        /** Tries all payments to debt d, the least first: of several plans that lose the same, the first stays. */
         private void tryPayments(int week, int d, int left) {
             Life life = lifeAfter(week);
-            if (week >= weeks || week >= LONGEST_BEST) {
-                weigh(life);
-            } else if (d >= life.count) {
-                Life next = lifeAfter(week + 1);
-                next.become(life);
-                next.passWeek(payments[week], false);
-                tryPayments(week + 1, 0, next.coin());
+            int sum = life.debts[d][Life.SUM];
+            int most = Math.min(sum, left);
+            int unit = Math.max(1, life.unit);
+            for (int v = 0; v <= most; v += unit) {
+                payments[week][d] = v;
+                goOn(week, d + 1, left - v);
+            }
+            if (sum <= left && sum % unit != 0) {
+                payments[week][d] = sum;
+                goOn(week, d + 1, left - sum);
+            }
+        }
+
+        private void endWeek(int week) {
+            Life next = lifeAfter(week + 1);
+            next.become(lifeAfter(week));
+            next.passWeek(payments[week], false);
+            if (week + 1 < weeks && week + 1 < LONGEST_BEST) {
+                goOn(week + 1, 0, next.coin());
             } else {
-                int sum = life.debts[d][Life.SUM];
-                int most = Math.min(sum, left);
-                int unit = Math.max(1, life.unit);
-                for (int v = 0; v <= most; v += unit) {
-                    payments[week][d] = v;
-                    tryPayments(week, d + 1, left - v);
-                }
-                if (sum <= left && sum % unit != 0) {
-                    payments[week][d] = sum;
-                    tryPayments(week, d + 1, left - sum);
-                }
+                weigh(next);
             }
         }
 

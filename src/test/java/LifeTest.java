@@ -240,6 +240,12 @@ final class LifeTest {
         fault(6, "debt 5");
         fault(12, "debt 5 kind 6");
         fault(11, "debt 5 kind");
+        fault(7, "debt 5 3");
+        fault(6, "chance");
+        fault(7, "chance ;unit 3");
+        fault(7, "income of 3");
+        fault(0, "nurse 5");
+        fault(0, "pursez 5");
         fault(19, "debt 5 kind 0 rate 51");
         fault(23, "debt 5 kind 0 patience 0");
         fault(23, "debt 5 kind 0 patience 10");
@@ -280,6 +286,16 @@ final class LifeTest {
             }
             x.weeks(0, 1);
         }
+        NineDebts z = Lives.of("debt 9 kind 4 rate 6 least 1;debt 1 kind 0 rate 3;debt 200 kind 1 rate 50;debt 8 kind 2 rate 3");
+        due("a fine, if nothing is paid", 6, z.grows(0));
+        due("one of 1", 3, z.grows(1));
+        due("a half", 100, z.grows(2));
+        z.rule(0, 6, 99);
+        due("not ahead of week 1", 0, z.grows(3));
+        z.weeks(0, 1);
+        due("not ahead of week 2", 0, z.grows(3));
+        z.weeks(0, 1);
+        due("ahead of week 3", 8, z.grows(3));
         NineDebts y = Lives.of("debt 5 kind 0 rate 7;debt 999 kind 2 rate 1");
         Lives.row(y, 0, 5);
         y.pay(0);

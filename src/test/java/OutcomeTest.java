@@ -85,6 +85,8 @@ final class OutcomeTest {
         x.rule(5, 3, 0);
         due("of several the first", 5, x.head(1));
         due("the longest", 5, x.head(60));
+        x.rule(0, 1, 0);
+        due("shelf 0, too", 0, x.head(1));
         due("no weeks", -2, x.head(0));
         due("too many", -2, x.head(61));
         Lives.refusals(checks, x, 2, 0, 0, 2, 0);
@@ -107,7 +109,16 @@ final class OutcomeTest {
         pays(Lives.of("income 9;debt 9 kind 5;debt 20 kind 5"), 1, 20, 9, 0);
         pays(Lives.of("income 9;debt 10 kind 5"), 1, 10, 0);
         pays(Lives.of("unit 3;income 8;debt 7 kind 5"), 1, 0, 7);
+        pays(Lives.of("unit 1;income 5;debt 40 kind 5;debt 3 kind 0 rate 50"), 1, 38, 2, 3);
         pays(new NineDebts(), 1, 0);
+        pays(Lives.of("unit 20"), 3, 0);
+        NineDebts y = Lives.of("income 10;debt 40 kind 0 patience 1 bite 9");
+        y.row(0, 0, 0);
+        y.pay(0);
+        due("harm that came ahead", 9, y.status(4));
+        pays(y, 1, 20, 20);
+        y.debt(5, 500, 0, 9, 0, 1);
+        pays(y, 1, 520, 10, 10);
         due("nothing was done", 0, x.status(2));
     }
 
@@ -313,6 +324,8 @@ final class OutcomeTest {
                 + "debt 10 kind 1 rate 50 bite 0", 0);
         due("one week: 50, 55 or 15", 1, x.hangs(2, 1));
         due("nothing was done", 100, x.status(5));
+        NineDebts w = Lives.withRules("income 0;debt 50 kind 5;debt 40 kind 5", 0);
+        due("the first of all", 0, w.hangs(2, 1));
         NineDebts y = Lives.withRules("income 9;debt 9 kind 5;debt 50 kind 5 bite 0;debt 50 kind 5 bite 0", 0);
         y.weeks(2, 1);
         due("of two alike the first, and not one that isn't open", 1, y.hangs(2, 1));
@@ -341,6 +354,9 @@ final class OutcomeTest {
         due("nothing was done", 3, x.income(0, 3));
         NineDebts y = Lives.withRules("debt 99 kind 5;debt 1 kind 0", 0);
         due("100 in one week", -1, y.enough(2, 1));
+        y.ask(0, 1);
+        due("99 in one week", 99, y.enough(2, 1));
+        y.ask(0, 0);
         y.rule(6, 6, 10);
         due("10 more, as 10 stay", 55, y.enough(6, 2));
         NineDebts z = Lives.withRules("unit 10", 0);

@@ -228,6 +228,10 @@ final class ShelfTest {
         due("LEASTS of open ones", 12, x.says(5, 5));
         due("EVEN: 43 less 40, and 40, by 2", 21, x.says(4, 4));
         due("SMALL of open ones", 0, x.says(2, 2));
+        NineDebts z = Lives.withRules("debt 1 kind 0 rate 5;debt 1 kind 4 rate 6 least 1", 0);
+        due("LEASTS of sums of 1", 6, z.says(5, 5));
+        due("DEAR: the fine", 1, z.says(1, 1));
+        due("LOUD: alike, the fine", 1, z.says(3, 3));
         NineDebts y = Lives.withRules("purse 5", 3);
         due("none open: DEAR", -1, y.says(1, 1));
         due("none open: SMALL", -1, y.says(2, 2));

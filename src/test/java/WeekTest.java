@@ -169,6 +169,11 @@ final class WeekTest {
             missed(x, weeks[w]);
         }
         sums(x, 118);
+        NineDebts v = Lives.of("income 0;chance 8;debt 100 kind 0 patience 1 bite 1");
+        v.rule(0, 2, 0);
+        // Draws: 8, 6, 3, 3, 9, 5, 8, 7, 0, 6, 9, 7.
+        v.weeks(0, 12);
+        due("8 is not below 8", 8, v.status(4));
         NineDebts y = Lives.of("income 0;chance 0;debt 100 kind 5 patience 1 bite 5;debt 9 kind 0 patience 2 bite 7");
         y.rule(0, 2, 0);
         y.weeks(0, 1);
