@@ -60,11 +60,16 @@ final class KeepTest {
         NineDebts x = new NineDebts();
         due("nothing was kept", -5, x.back());
         x.image();
-        x.debt(0, 5, 0, 1, 1, 1);
+        x.debt(0, 500, 0, 9, 1, 99);
+        x.write(0);
+        x.rule(0, 2, 0);
+        x.weeks(0, 1);
         x.back();
         due("no debts", 0, x.status(0));
         due("a debt as new", 0, x.debt(1, 6, 0, 1, 1, 1));
         due("its weeks", 0, x.debtOf(0, 6));
+        due("not written to", 0, x.debtOf(0, 7));
+        due("not paid to", 0, x.debtOf(0, 8));
         x.back();
         due("as often as one likes", 0, x.status(0));
         x.debt(2, 7, 0, 1, 1, 1);

@@ -23,6 +23,7 @@ final class OutcomeTest {
         t.holder();
         t.hangs();
         t.enough();
+        t.nine();
     }
 
     private void due(String what, long want, long got) {
@@ -110,6 +111,7 @@ final class OutcomeTest {
         pays(Lives.of("income 9;debt 10 kind 5"), 1, 10, 0);
         pays(Lives.of("unit 3;income 8;debt 7 kind 5"), 1, 0, 7);
         pays(Lives.of("unit 1;income 5;debt 40 kind 5;debt 3 kind 0 rate 50"), 1, 38, 2, 3);
+        pays(Lives.of("unit 1;income 3;debt 40 kind 5"), 1, 37, 3);
         pays(new NineDebts(), 1, 0);
         pays(Lives.of("unit 20"), 3, 0);
         NineDebts y = Lives.of("income 10;debt 40 kind 0 patience 1 bite 9");
@@ -339,6 +341,40 @@ final class OutcomeTest {
         NineDebts z = Lives.withRules("unit 10", 0);
         due("none is open", -5, z.hangs(2, 1));
         due("nothing ahead of it", -4, z.hangs(0, 1));
+    }
+
+    /** Each call with as many debts as there can be. */
+    private void nine() {
+        checks.begin("nine debts");
+        NineDebts x = Lives.withRules("income 20", 0);
+        for (int d = 0; d < 9; d++) {
+            x.debt(5, 10, 0, 1, d, 10);
+        }
+        int[] says = {0, 0, 0, 2, 90, 0};
+        int[] paid = {0, 0, 0, 2, 0, 0};
+        for (int s = 1; s <= 6; s++) {
+            due("says(" + s + ")", says[s - 1], x.says(s, s));
+            due("pays(" + s + ", 8)", paid[s - 1], x.pays(s, 8));
+        }
+        due("five weeks are enough", 5, x.run(2, 9, 4));
+        due("five bite in week 1, the last once more in week 3", 4 + 5 + 6 + 7 + 8 + 8, x.run(2, 9, 0));
+        due("quiet: none has weeks yet", -1, x.quiet(2, 9));
+        due("hangs", 8, x.hangs(2, 9));
+        due("holder", 10, x.holder(2, 9, 8));
+        due("enough", 90, x.enough(2, 1));
+        due("offer: 8, 8 and the 10 paid", 26, x.offer(2, 9, 8, 0));
+        due("one", 0, x.one(2, 9, 0));
+        due("head", 1, x.head(9));
+        due("best", -5, x.best(1, -1));
+        Lives.row(x, 0, 1, 1, 1, 1, 1, 1, 1, 1, 1);
+        due("judge", -1, x.judge(0));
+        due("pay", 9, x.pay(0));
+        due("quiet: of those that bite now the worst", 8, x.quiet(6, 1));
+        due("weeks: nine times a ninth of 31, cut", 27, x.weeks(4, 1));
+        due("image", 1, x.image());
+        due("all", 0, x.all(0));
+        due("back", 1, x.back());
+        due("sums", 81 - 27, x.status(5));
     }
 
     private void enough() {
