@@ -5,9 +5,11 @@ public final class AllTests {
         SourceTest.runAll(checks);
         ShelfTest.runAll(checks);
         LifeTest.runAll(checks);
+        TapeTest.runAll(checks);
         WeekTest.runAll(checks);
         OutcomeTest.runAll(checks);
         KeepTest.runAll(checks);
+        FarTest.runAll(checks);
         ModelTest.runAll(checks);
         checks.close();
         if (checks.failed() != 0) {

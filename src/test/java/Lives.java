@@ -52,4 +52,39 @@ final class Lives {
             checks.same("refusals of " + (-2 - k), due[k], x.status(12 + k));
         }
     }
+
+    /** All that can be seen of an object, but for how often it refused: rows up to their sixth element. */
+    static String picture(NineDebts x) {
+        StringBuilder text = new StringBuilder();
+        for (int what = 0; what <= 11; what++) {
+            text.append(x.status(what)).append(' ');
+        }
+        for (int d = 0; d < x.status(0); d++) {
+            for (int what = 0; what <= 8; what++) {
+                text.append(x.debtOf(d, what)).append(' ');
+            }
+        }
+        for (int w = 0; w < 12; w++) {
+            int v = x.income(w, 0);
+            x.income(w, v);
+            text.append(v).append(' ');
+        }
+        for (int s = 0; s < 8; s++) {
+            text.append(x.holds(s)).append(' ');
+            text.append(x.holds(s) >= 10 ? x.says(s, 0) : 0).append(' ');
+            for (int i = 0; i < 6; i++) {
+                text.append(x.element(s, i)).append(' ');
+            }
+        }
+        return text.toString();
+    }
+
+    /** How often all was refused, in one text. */
+    static String refusals(NineDebts x) {
+        StringBuilder text = new StringBuilder();
+        for (int what = 12; what <= 16; what++) {
+            text.append(x.status(what)).append(' ');
+        }
+        return text.toString();
+    }
 }
