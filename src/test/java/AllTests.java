@@ -9,6 +9,7 @@ public final class AllTests {
         WeekTest.runAll(checks);
         OutcomeTest.runAll(checks);
         KeepTest.runAll(checks);
+        TermsTest.runAll(checks);
         FarTest.runAll(checks);
         ModelTest.runAll(checks);
         checks.close();
