@@ -1111,7 +1111,8 @@ public final class NineDebts {
 
         // Above any growth, so that among equally loud debts alone the growth counts.
         private static final long LOUDER = 100000L;
-        private static final long NO_TURN = Long.MAX_VALUE;
+        // Above any turn: of a debt that has none, or has had its own.
+        private static final long NO_TURN = 1000000000L;
 
         final int[] payments = new int[Life.MOST_DEBTS];
         // Where each debt stands in the order: the least number first.

@@ -121,8 +121,7 @@ final class SourceTest {
             checks.yes("import " + imports.group(1), imports.group(1).equals("java.util.Arrays"));
         }
         Matcher calls = Pattern.compile("\\b(Math|Arrays|System|Integer|Long|String)\\.(\\w+)").matcher(source);
-        Set<String> listed = Set.of("Math.min", "Math.max", "Math.floorMod", "Arrays.fill", "System.arraycopy",
-                "Long.MAX_VALUE");
+        Set<String> listed = Set.of("Math.min", "Math.max", "Math.floorMod", "Arrays.fill", "System.arraycopy");
         while (calls.find()) {
             checks.yes("library: " + calls.group(), listed.contains(calls.group()));
         }

@@ -430,6 +430,17 @@ final class TermsTest {
         due("DEAR says another, but by LOUD's order", 1, x.says(LOUD, DEAR));
         x.alter(0, 0, 50);
         due("DEAR's own", 0, x.says(DEAR, DEAR));
+        NineDebts y = Lives.withRules("income 0;chance 0;debt 999 kind 1 rate 50 patience 1;debt 999 kind 2 rate 1 patience 1", 0);
+        idle(y, 4);
+        due("as dear as grows() tells, 9,999 aside", 1, y.says(LOUD, LOUD));
+        y.alter(0, 1, 2);
+        y.alter(1, 1, 3);
+        due("2 less 4 ahead of 3 less 4, though that is dearer", 0, y.says(LOUD, LOUD));
+        y.alter(0, 1, 4);
+        due("3 less 4 ahead of 4 less 4", 1, y.says(LOUD, LOUD));
+        NineDebts z = Lives.withRules("income 0;chance 0;debt 9 kind 0 rate 7 patience 3;debt 9 kind 0 patience 2", 0);
+        idle(z, 5);
+        due("2 less 5 ahead of 3 less 5", 1, z.says(LOUD, LOUD));
     }
 
     private void even() {
@@ -640,6 +651,13 @@ final class TermsTest {
         due("one letter each", -5, x.write(0));
         x.all(0);
         due("ONE was not written to", 0, x.write(0));
+        NineDebts y = Lives.withRules("income 0;debt 5 kind 0 patience 3 bite 9;debt 5 kind 0 patience 3 bite 4", 0);
+        y.write(0);
+        idle(y, 2);
+        due("a second letter would quiet more, but can't be", 1, y.quiet(SMALL, 1));
+        y.write(1);
+        idle(y, 2);
+        due("none can have a letter any more", -1, y.quiet(SMALL, 1));
     }
 
     private void enough() {
