@@ -458,6 +458,12 @@ final class TermsTest {
         x.income(1, 7);
         due("11 by 2", 5, x.says(EVEN, EVEN));
         parted(x, EVEN, 5, 0, 5);
+        NineDebts y = Lives.withRules("income 11;debt 90 kind 0;debt 11 kind 0", 0);
+        Lives.row(y, 0, 0, 11);
+        y.pay(0);
+        due("11 by 1", 11, y.says(EVEN, EVEN));
+        parted(y, EVEN, 11, 0);
+        due("all of it to the only one", 22, y.weeks(EVEN, 2));
     }
 
     private void leasts() {
@@ -640,6 +646,9 @@ final class TermsTest {
         x.debt(5, 1, 0, 1, 99, 1);
         due("a bite that comes in two weeks", 3, x.hangs(SMALL, 2));
         due("and not in one", 1, x.hangs(SMALL, 1));
+        NineDebts y = Lives.withRules("income 5 of 0;income 4 of 1;debt 60 kind 5 patience 9;"
+                + "debt 55 kind 0 patience 1 bite 20 least 5", 0);
+        due("one that is gone leaves no coin: 66, as 4 is below its least, and 51", 1, y.hangs(EVEN, 2));
     }
 
     private void letters() {
