@@ -3,6 +3,11 @@ final class Checks {
     private int passed = 0;
     private int failed = 0;
     private String part = "";
+    private final boolean prints;
+
+    Checks(boolean prints) {
+        this.prints = prints;
+    }
 
     void begin(String name) {
         part = name;
@@ -13,7 +18,9 @@ final class Checks {
             passed++;
         } else {
             failed++;
-            System.out.println(part + ": " + what + " is " + got + ", due is " + want);
+            if (prints) {
+                System.out.println(part + ": " + what + " is " + got + ", due is " + want);
+            }
         }
     }
 

@@ -261,7 +261,15 @@ final class OutcomeTest {
         NineDebts z = Lives.withRules("unit 10", 0);
         due("none is open", -5, z.one(2, 1, 0));
         due("nothing ahead of it", -4, z.one(0, 1, 0));
+        due("none is open any more", -5, paidOff().one(2, 1, 0));
         Lives.refusals(checks, y, 5, 1, 1, 0, 0);
+    }
+
+    /** Debts there are, but all are paid off. */
+    private static NineDebts paidOff() {
+        NineDebts x = Lives.withRules("debt 9 kind 5;debt 31 kind 5", 0);
+        x.weeks(2, 1);
+        return x;
     }
 
     private void row(NineDebts x, int d, int... due) {
@@ -290,6 +298,10 @@ final class OutcomeTest {
         due("none is open", -5, y.all(0));
         due("bad ahead of it", -2, y.all(51));
         Lives.refusals(checks, y, 1, 0, 0, 1, 0);
+        NineDebts w = paidOff();
+        due("none is open any more", -5, w.all(0));
+        due("its kind stays", 5, w.debtOf(0, 0));
+        Lives.refusals(checks, w, 0, 0, 0, 1, 0);
         NineDebts z = Lives.of("income 0;debt 999 kind 2 rate 1;debt 999 kind 2 rate 1");
         z.rule(0, 2, 0);
         z.weeks(0, 4);
@@ -338,9 +350,13 @@ final class OutcomeTest {
         due("a row", -3, y.hangs(0, 1));
         due("nothing", -4, y.hangs(7, 1));
         Lives.refusals(checks, y, 3, 1, 1, 0, 0);
+        y.weeks(2, 1);
+        y.income(2, 99);
+        due("nothing is lost with any or without: the first that is open", 1, y.hangs(2, 1));
         NineDebts z = Lives.withRules("unit 10", 0);
         due("none is open", -5, z.hangs(2, 1));
         due("nothing ahead of it", -4, z.hangs(0, 1));
+        due("none is open any more", -5, paidOff().hangs(2, 1));
     }
 
     /** Each call with as many debts as there can be. */
