@@ -9,6 +9,7 @@ public final class AllTests {
         TapeTest.runAll(checks);
         WeekTest.runAll(checks);
         OutcomeTest.runAll(checks);
+        ByRuleTest.runAll(checks);
         KeepTest.runAll(checks);
         TermsTest.runAll(checks);
         FarTest.runAll(checks);

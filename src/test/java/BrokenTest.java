@@ -21,8 +21,8 @@ import javax.tools.ToolProvider;
 
 /** Tests the tests: each broken copy of the class that Breaks tells must be found by one that is written by hand. */
 final class BrokenTest {
-    private static final String[] TESTS = {"ShelfTest", "LifeTest", "WeekTest", "OutcomeTest", "KeepTest", "TapeTest",
-        "TermsTest", "FarTest"};
+    private static final String[] TESTS = {"ShelfTest", "LifeTest", "WeekTest", "OutcomeTest", "ByRuleTest", "KeepTest",
+        "TapeTest", "TermsTest", "FarTest"};
 
     private BrokenTest() {
     }

@@ -88,6 +88,12 @@ final class LifeTest {
             due("the most", high[what], x.debtOf(0, 2 + what));
         }
         due("no such debt", -2, x.alter(1, 0, 5));
+        x.debt(3, 60, 8, 4, 13, 22);
+        int[] wasToo = {8, 4, 13, 22};
+        for (int what = 0; what < 4; what++) {
+            due("what another's was", wasToo[what], x.alter(1, what, 3));
+            due("what it is", 3, x.debtOf(1, 2 + what));
+        }
         due("no such thing", -2, x.alter(0, 4, 5));
         due("no such thing", -2, x.alter(0, -1, 5));
         row(x, 0, 0, 50, 50, 9, 99, 99, 0, 0, 0);
@@ -124,6 +130,8 @@ final class LifeTest {
             due("the most", low[what], x.ask(what, high[what]));
             due("too much", -2, x.ask(what, high[what] + 1));
             due("the most", high[what], x.status(status[what]));
+            due("what it was", high[what], x.ask(what, 7));
+            due("what it is", 7, x.status(status[what]));
         }
         due("no such thing", -2, x.ask(3, 5));
         due("no such thing", -2, x.ask(-1, 5));
@@ -307,6 +315,11 @@ final class LifeTest {
         y.weeks(1, 1);
         due("9,999 aside", 9999, y.grows(1));
         due("9,999 at most", 9999, y.debtOf(1, 1));
+        NineDebts w = new NineDebts();
+        w.debt(0, 5, 7, 1, 0, 1);
+        w.debt(4, 5, 8, 1, 0, 1);
+        due("the first", 7, w.grows(0));
+        due("the second", 8, w.grows(1));
         due("no such debt", -2, y.grows(2));
         due("no such debt", -2, y.grows(-1));
         Lives.refusals(checks, y, 2, 0, 0, 0, 0);
@@ -326,6 +339,24 @@ final class LifeTest {
         }
         x.alter(2, 0, 9);
         due("asleep again till week 9", 6, x.bites(2));
+        x.write(0);
+        due("one that was written to", 2, x.bites(0));
+        due("one that wasn't", 1, x.bites(3));
+        NineDebts z = new NineDebts();
+        z.debt(3, 9, 6, 1, 0, 1);
+        z.debt(3, 5, 4, 9, 0, 1);
+        z.debt(0, 9, 6, 4, 0, 1);
+        z.debt(3, 9, 5, 7, 0, 1);
+        int[] sleepers = {7, 13, 4, 12};
+        for (int d = 0; d < 4; d++) {
+            due("bites(" + d + ") of sleepers", sleepers[d], z.bites(d));
+        }
+        Lives.row(z, 0, 0, 5);
+        z.pay(0);
+        int[] open = {6, -1, 3, 11};
+        for (int d = 0; d < 4; d++) {
+            due("bites(" + d + ") if the second isn't open", open[d], z.bites(d));
+        }
         NineDebts y = Lives.of("debt 5 kind 0");
         y.rule(0, 2, 0);
         y.weeks(0, 1);

@@ -214,6 +214,12 @@ final class OutcomeTest {
         due("the other one: 25 left", 79 - 10 - 30, x.offer(2, 1, 1, 5));
         due("nothing was done", 20, x.status(3));
         due("nothing was done", 70, x.status(5));
+        NineDebts y = Lives.withRules("income 0;purse 20;debt 5 kind 5;debt 40 kind 1 rate 50 least 1", 0);
+        // Without it 25 and 12 are lost and 20 paid; for 3, 23 and 11 are lost, and 17 and 3 paid.
+        due("for 3", 57 - 54, y.offer(2, 1, 0, 3));
+        due("for nothing", 57 - 50, y.offer(2, 1, 0, 0));
+        due("for 7", 57 - 60, y.offer(2, 1, 0, 7));
+        due("for 20", 57 - 80, y.offer(2, 1, 0, 20));
     }
 
     private void offerRefused() {
@@ -235,6 +241,16 @@ final class OutcomeTest {
         due("nothing ahead of it", -1000004, x.offer(7, 1, 1, 0));
         x.ask(0, 9999);
         due("too much", -1000002, x.offer(2, 1, 0, 10000));
+        NineDebts y = Lives.withRules("purse 20;debt 9 kind 5;debt 9 kind 5;debt 9 kind 5", 0);
+        Lives.row(y, 0, 0, 9);
+        y.pay(0);
+        due("one that isn't open, for something", -1000005, y.offer(2, 1, 1, 5));
+        due("the one ahead of it", 4, y.offer(2, 1, 0, 5));
+        due("the one behind it", 4, y.offer(2, 1, 2, 5));
+        Lives.row(y, 0, 9);
+        y.pay(0);
+        due("the first one, for something", -1000005, y.offer(2, 1, 0, 1));
+        due("the last one", 8, y.offer(2, 1, 2, 1));
         Lives.refusals(checks, x, 10, 1, 2, 1, 0);
     }
 
@@ -308,6 +324,16 @@ final class OutcomeTest {
         due("sums", 19998, z.status(5));
         z.all(0);
         due("9,999 at most", 9999, z.status(5));
+        NineDebts v = new NineDebts();
+        for (int d = 0; d < 9; d++) {
+            v.debt(d % 6, 10 + d, 5, 2, 3, 4);
+        }
+        v.seed(77);
+        due("nine into one", 0, v.all(6));
+        row(v, 0, 1, 126, 6, 3, 10, 5, 0, 0, 0);
+        for (int d = 1; d < 9; d++) {
+            row(v, d, d % 6, 0, 5, 2, 3, 4, 0, 0, 0);
+        }
     }
 
     private void holder() {
@@ -340,6 +366,8 @@ final class OutcomeTest {
         due("nothing was done", 100, x.status(5));
         NineDebts w = Lives.withRules("income 0;debt 50 kind 5;debt 40 kind 5", 0);
         due("the first of all", 0, w.hangs(2, 1));
+        w.write(0);
+        due("written to or not", 0, w.hangs(2, 1));
         NineDebts y = Lives.withRules("income 9;debt 9 kind 5;debt 50 kind 5 bite 0;debt 50 kind 5 bite 0", 0);
         y.weeks(2, 1);
         due("of two alike the first, and not one that isn't open", 1, y.hangs(2, 1));

@@ -13,10 +13,12 @@ final class ShelfTest {
         t.set();
         t.copy();
         t.copyRefused();
+        t.copyAnywhere();
         t.element();
         t.holds();
         t.rule();
         t.says();
+        t.saysFar();
         t.saysRefused();
     }
 
@@ -65,6 +67,13 @@ final class ShelfTest {
         x.rule(1, 2, 0);
         x.row(1, 1, 3);
         due("a row where a rule was", 1, x.holds(1));
+        for (int s = 0; s < 8; s++) {
+            x.row(s, 2, 3);
+            x.set(s, 1, 50 + s);
+            due("its own element", 50 + s, x.element(s, 1));
+            x.row(s, 2, 2);
+            due("a new row's elements, in shelf " + s, 0, x.element(s, 1));
+        }
         Lives.refusals(checks, x, 8, 0, 0, 0, 0);
     }
 
@@ -154,6 +163,27 @@ final class ShelfTest {
         Lives.refusals(checks, x, 11, 5, 2, 0, 0);
     }
 
+    /** From shelf 6 and into 5, where shelf 0 holds less, and of another sort. */
+    private void copyAnywhere() {
+        NineDebts x = new NineDebts();
+        x.row(0, 0, 1);
+        Lives.row(x, 6, 1, 2, 3, 4);
+        Lives.row(x, 5, 9, 9);
+        due("past the first's end", -2, x.copy(6, 5, 3, 0, 2));
+        due("past the second's end", -2, x.copy(6, 5, 0, 1, 2));
+        due("the other way, past the first's end", -2, x.copy(5, 6, 1, 0, 2));
+        due("the other way, past the second's end", -2, x.copy(5, 6, 0, 3, 2));
+        due("two sorts", -3, x.copy(6, 0, 0, 0, 1));
+        due("two sorts", -3, x.copy(0, 6, 0, 0, 1));
+        cells(x, 5, 9, 9);
+        cells(x, 6, 1, 2, 3, 4);
+        due("to the end", 2, x.copy(6, 5, 2, 0, 2));
+        cells(x, 5, 3, 4);
+        due("from the end", 1, x.copy(5, 6, 1, 0, 1));
+        cells(x, 6, 4, 2, 3, 4);
+        Lives.refusals(checks, x, 4, 2, 0, 0, 0);
+    }
+
     private void element() {
         checks.begin("promise 5");
         NineDebts x = new NineDebts();
@@ -167,6 +197,10 @@ final class ShelfTest {
         due("nothing", 0, x.element(2, 0));
         due("no shelf", 0, x.element(8, 0));
         due("no shelf", 0, x.element(-1, 0));
+        x.row(3, 2, 5);
+        x.set(3, 2, 8);
+        x.rule(3, 2, 9);
+        due("a rule where a row was", 0, x.element(3, 2));
         Lives.refusals(checks, x, 0, 0, 0, 0, 0);
     }
 
@@ -240,6 +274,22 @@ final class ShelfTest {
         due("none open: LEASTS", 0, y.says(5, 5));
         due("none open: KEEP", -1, y.says(6, 6));
         due("none open: a", 3, y.says(6, 0));
+    }
+
+    /** Orders where the first debt is paid off and the others' numbers are as great as can be. */
+    private void saysFar() {
+        NineDebts x = Lives.withRules("chance 0;income 9;debt 9 kind 5;debt 999 kind 2 rate 1;debt 999 kind 2 rate 1", 0);
+        x.weeks(2, 4);
+        due("a sum of 9,999, less what was paid and doubled", 9999, x.debtOf(2, 1));
+        due("SMALL: the first that is open", 1, x.says(2, 2));
+        due("DEAR: the first that is open", 1, x.says(1, 1));
+        NineDebts y = Lives.withRules("income 9;debt 9 kind 5;debt 20 kind 5 patience 9;debt 30 kind 5 patience 9", 0);
+        due("LOUD: twice 3 ahead of twice 9", 0, y.says(3, 3));
+        y.weeks(3, 1);
+        due("LOUD: the first that is open", 1, y.says(3, 3));
+        y.ask(0, 25);
+        due("LOUD: first the one", 20, y.pays(3, 1));
+        due("LOUD: then the other", 14, y.pays(3, 2));
     }
 
     private void saysRefused() {

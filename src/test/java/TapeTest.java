@@ -185,6 +185,10 @@ final class TapeTest {
         read(-20, "nothing;unit 0");
         read(-25, "unit x;;");
         read(-31, "unit 1;unit;;");
+        read(-26, "debt 5;purse 3");
+        read(-26, "debt 5;0");
+        read(-31, "debt 5 kind;0");
+        read(-24, "debt;5 kind 0");
     }
 
     /** What there is no room for is a fault at its word, ahead of all behind it. */

@@ -48,6 +48,7 @@ final class TermsTest {
         t.bestRound();
         t.bestPayments();
         t.bestAmongNine();
+        t.bestWhole();
         t.offers();
         t.ones();
         t.hangs();
@@ -367,6 +368,9 @@ final class TermsTest {
         Lives.row(x, 0, 1, 8, 9, 9, 4, 0);
         x.pay(0);
         column(x, 1, 49, 48, 41, 0, 7, 50);
+        Lives.row(x, 0, 2, 9, 10, 0, 0, 3);
+        x.pay(0);
+        column(x, 1, 47, 39, 31, 0, 13, 47);
         due("if nothing were paid", 6, x.grows(2));
         due("one that is paid off", 0, x.grows(3));
     }
@@ -610,6 +614,28 @@ final class TermsTest {
         int[] once = {0, 0, 0, 0, 30, 0, 0, 0, 30};
         for (int d = 0; d < 9; d++) {
             due("best(1, " + d + ")", once[d], x.best(1, d));
+        }
+        NineDebts y = Lives.of("income 45");
+        int[] sums = {1, 1, 1, 1, 1, 1, 15, 7, 23};
+        for (int d = 0; d < 9; d++) {
+            y.debt(5, sums[d], 0, 9, 0, 1);
+        }
+        Lives.row(y, 0, 1, 1, 1, 1, 1, 1);
+        y.pay(0);
+        y.ask(0, 0);
+        due("whole sums", 0, y.best(1, -1));
+        for (int d = 0; d < 9; d++) {
+            due("best(1, " + d + ")", d < 6 ? 0 : sums[d], y.best(1, d));
+        }
+    }
+
+    /** A whole sum can be paid, multiple of the unit or not. */
+    private void bestWhole() {
+        for (int sum = 1; sum <= 99; sum++) {
+            NineDebts x = Lives.of("income 99;unit 50;debt " + sum + " kind 5;debt 200 kind 5");
+            due("loss of " + sum, sum < 50 ? 150 : 200, x.best(1, -1));
+            // 50 for the other loses as little, and 0 for this one comes first.
+            due("whole of " + sum, sum == 50 ? 0 : sum, x.best(1, 0));
         }
     }
 
