@@ -82,7 +82,8 @@ final class BrokenTest {
     }
 
     private static Map<String, byte[]> compile(JavaCompiler compiler, String source) throws IOException {
-        JavaFileObject text = new SimpleJavaFileObject(URI.create("string:///NineDebts.java"), JavaFileObject.Kind.SOURCE) {
+        URI place = URI.create("string:///NineDebts.java");
+        JavaFileObject text = new SimpleJavaFileObject(place, JavaFileObject.Kind.SOURCE) {
             @Override
             public CharSequence getCharContent(boolean ignoreEncodingErrors) {
                 return source;
@@ -106,7 +107,8 @@ final class BrokenTest {
         }
 
         @Override
-        public JavaFileObject getJavaFileForOutput(Location where, String name, JavaFileObject.Kind kind, FileObject from) {
+        public JavaFileObject getJavaFileForOutput(Location where, String name, JavaFileObject.Kind kind,
+                FileObject from) {
             return new SimpleJavaFileObject(URI.create("mem:///" + name + ".class"), kind) {
                 @Override
                 public OutputStream openOutputStream() {

@@ -75,7 +75,8 @@ final class ByRuleTest {
         x.row(0, 0, 0);
         x.pay(0);
         x.ask(0, 2);
-        int[][] losses = {{124, 124, 124, 125, 124, 127}, {133, 133, 133, 118, 118, 145}, {130, 130, 118, 126, 112, 142}};
+        int[][] losses = {{124, 124, 124, 125, 124, 127}, {133, 133, 133, 118, 118, 145},
+            {130, 130, 118, 126, 112, 142}};
         int[] heads = {1, 4, 5, 3, 3, 3};
         for (int n = 1; n <= 6; n++) {
             for (int s = 1; s <= 6 && n <= 3; s++) {
@@ -99,6 +100,12 @@ final class ByRuleTest {
             for (int s = 1; s <= 6; s++) {
                 due("lose(" + s + ", " + n + ")", lost[n - 1][s - 1], x.lose(s, n));
             }
+        }
+        due("a week by EVEN", 33, x.weeks(4, 1));
+        int[] then = {-1, 4, -1, 2, -10, 23};
+        due("the best of two weeks from then on", 111, x.best(2, -1));
+        for (int s = 1; s <= 6; s++) {
+            due("lose(" + s + ", 2) then", then[s - 1], x.lose(s, 2));
         }
     }
 

@@ -125,6 +125,10 @@ final class SourceTest {
         while (calls.find()) {
             checks.yes("library: " + calls.group(), listed.contains(calls.group()));
         }
+        for (String line : source.split("\n")) {
+            boolean isMade = line.matches(" *(private )?final [\\w\\[\\]]+ \\w+ = new .*;");
+            checks.yes("made with the object: " + line, isMade || !line.matches(".*\\bnew\\b.*"));
+        }
         boolean isPlain = source.chars().allMatch(c -> c == '\n' || c >= 32 && c < 127);
         checks.yes("plain signs", isPlain);
     }

@@ -482,6 +482,17 @@ final class TermsTest {
         NineDebts y = Lives.withRules("debt 30 kind 0 least 25;debt 20 kind 0 least 1", 0);
         y.income(0, 28);
         parted(y, LEASTS, 25, 3);
+        NineDebts z = Lives.of("income 99;purse 6");
+        for (int d = 0; d < 9; d++) {
+            z.debt(5, 50 - d, 0, 9, 0, 10 + d);
+        }
+        for (int a = 0; a <= 6; a++) {
+            z.rule(LEASTS, LEASTS, a);
+            z.ask(0, 6);
+            parted(z, LEASTS, 10, 11, 12, 13, 14, 15, 16, 14, 0);
+            z.ask(0, 30);
+            parted(z, LEASTS, 10, 11, 12, 13, 14, 15, 16, 17, 21);
+        }
     }
 
     private void keep() {
